@@ -123,8 +123,29 @@ public final class ModelTest {
                 b = hatNumber();
                 c = lots.nextBoolean() ? upTo(20) : upTo(5);
                 same("film(" + a + ", " + b + ", " + c + ")", x.film(a, b, c), m.film(a, b, c));
+                if (lots.nextInt(3) == 0) {
+                    askOfStory(a, b, c);
+                }
                 break;
         }
+    }
+
+    /** A story that is right, or all but one number of it is. */
+    private void askOfStory(int s, int p, int n) {
+        if (lots.nextBoolean() && n > 0) {
+            int i = lots.nextInt(Math.min(n, 20));
+            int v = lots.nextInt(100);
+            same("cell(" + s + ", " + i + ", " + v + ")", x.cell(s, i, v), m.cell(s, i, v));
+        }
+        int of = hatNumber();
+        same("judge", x.judge(s, p), m.judge(s, p));
+        same("kinds 0", x.kinds(s, p, of, 0), m.kinds(s, p, of, 0));
+        same("kinds 1", x.kinds(s, p, of, 1), m.kinds(s, p, of, 1));
+        same("states 1", x.states(s, p, 1, 0), m.states(s, p, 1, 0));
+        same("states 2", x.states(s, p, 2, 1), m.states(s, p, 2, 1));
+        same("places", x.places(s, p), m.places(s, p));
+        same("whose", x.whose(s), m.whose(s));
+        same("laws", x.laws(s, p), m.laws(s, p));
     }
 
     private void feedText(String text) {

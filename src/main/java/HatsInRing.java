@@ -540,11 +540,11 @@ public final class HatsInRing {
         }
         int came = 0;
         for (int k = 0; k < n; k++) {
-            // The first place is looked at ahead of the sum, which could wrap.
-            if (!within(from, 0, list.size) || from + 3 * k + 2 >= list.size) {
+            // "from" is looked at ahead of the sum, which could wrap.
+            int at = within(from, 0, list.size) ? from + 3 * k : NONE;
+            if (!within(at, 0, list.size - 3)) {
                 return OUTSIDE;
             }
-            int at = from + 3 * k;
             if (hat(list.row[at], list.row[at + 1], list.row[at + 2]) >= 0) {
                 came++;
             }
@@ -695,7 +695,8 @@ public final class HatsInRing {
             law = other.law;
         }
 
-        // The caller has looked whether there is room and whether the numbers are as told.
+        // The caller has looked whether there is room and whether the numbers are as told. BLOWS and
+        // TALLIES are 0 beyond the last HAT, as become() takes the rows over whole.
         void add(int kindMore, int at, int feltPride) {
             int p = size;
             kind[p] = kindMore / 10;
@@ -703,12 +704,6 @@ public final class HatsInRing {
             place[p] = at;
             felt[p] = feltPride / 100;
             pride[p] = feltPride % 100;
-            // A HAT that back() took away may have left something here.
-            blows[p] = 0;
-            for (int q = 0; q < HATS; q++) {
-                tally[p * HATS + q] = 0;
-                tally[q * HATS + p] = 0;
-            }
             size++;
         }
 
@@ -851,9 +846,9 @@ public final class HatsInRing {
 
     /** What is told of KINDS; "so" is what the TEXT says. */
     private static final class Kinds {
-        private static final int SILK = 1, BROWN = 2, TOP = 3, CAP = 4, SCARECROW = 5;
+        private static final int HAT = 0, SILK = 1, BROWN = 2, TOP = 3, CAP = 4, SCARECROW = 5;
         /** Which KIND each one is besides. */
-        private static final int[] ABOVE = {-1, 0, 0, SILK, BROWN, 0};
+        private static final int[] ABOVE = {-1, HAT, HAT, SILK, BROWN, HAT};
 
         static boolean isOne(int kind, int of) {
             int one = kind;
@@ -1021,20 +1016,16 @@ public final class HatsInRing {
             into = text;
             into.clear();
             next();
-            readPart(GOES, Token.GOES);
-            readPart(HITS, Token.HITS);
-            readPart(SOFT, Token.SOFT);
+            for (int part = 0; part < PARTS; part++) {
+                expect(part == GOES ? Token.GOES : part == HITS ? Token.HITS : Token.SOFT);
+                readE(0);
+                expect(Token.SEMICOLON);
+                into.endPart(part);
+            }
             if (token != Token.END) {
                 refuse();
             }
             return fault;
-        }
-
-        private void readPart(int part, int key) {
-            expect(key);
-            readE(0);
-            expect(Token.SEMICOLON);
-            into.endPart(part);
         }
 
         // "open" is how many of ( , not and - are open; it bounds the recursion.
@@ -1183,11 +1174,11 @@ public final class HatsInRing {
         }
 
         private static boolean isLetter(int c) {
-            return within(c, 'a', 'z');
+            return c >= 'a' && c <= 'z';
         }
 
         private static boolean isDigit(int c) {
-            return within(c, '0', '9');
+            return c >= '0' && c <= '9';
         }
     }
 
