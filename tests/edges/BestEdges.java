@@ -31,7 +31,8 @@ final class BestEdges {
     }
 
     private void beaten() {
-        edge.of(16, "All others such that, were all FLAT but one and that one, one is UP behind 60 ROUNDS, and that one isn't (what 0; bits), how many (1).");
+        edge.of(16, "All others such that, were all FLAT but one and that one, one is UP behind 60 ROUNDS, "
+            + "and that one isn't (what 0; bits), how many (1).");
         int[][] due = {{1, 2}, {60, 2}, {61, 0}, {99, 0}, {0, 2}};
         for (int[] d : due) {
             edge.due("beaten(0, 0), FELT " + d[0], hitByOne(d[0]).beaten(0, 0), d[1]);

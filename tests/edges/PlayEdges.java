@@ -229,7 +229,8 @@ final class PlayEdges {
     }
 
     private void lots() {
-        edge.of("LOTS", "LOTS: the first is (SEED and 1) times 48271 modulo 2147483647, each further one the last times 48271 modulo 2147483647.");
+        edge.of("LOTS", "LOTS: the first is (SEED and 1) times 48271 modulo 2147483647, "
+            + "each further one the last times 48271 modulo 2147483647.");
         HatsInRing x = six(new int[6]);
         for (int seed : new int[] {44486, 44487, 44488, 44489, 48270, 65535, 88976, 88977, 88978}) {
             HatsInRing y = six(lotsOf(seed));
@@ -265,7 +266,8 @@ final class PlayEdges {
     }
 
     private void sheets() {
-        edge.of("SHEETS", "SHEETS 0 .. 3 are rows of numbers, or missing (as all are at first): of sort 0 bytes, 1 shorts, 2 ints, 40 at most.");
+        edge.of("SHEETS", "SHEETS 0 .. 3 are rows of numbers, or missing (as all are at first): "
+            + "of sort 0 bytes, 1 shorts, 2 ints, 40 at most.");
         HatsInRing x = new HatsInRing();
         for (int s = -1; s <= 4; s++) {
             boolean such = s >= 0 && s <= 3;

@@ -7,6 +7,7 @@ final class RingEdges {
     }
 
     void test() {
+        lastCall();
         empty();
         counts();
         feedNumbers();
@@ -20,6 +21,25 @@ final class RingEdges {
         put();
         told();
         duel();
+    }
+
+    private void lastCall() {
+        edge.of("What it is", "An object is used for at most 512 calls after it has been made");
+        HatsInRing x = new HatsInRing();
+        x.hat(0, 0, 9900);
+        x.hat(59, 0, 9900);
+        for (int call = 3; call < 512; call++) {
+            x.round();
+        }
+        edge.due("the 512th call", x.told(1, 3), 99);
+        HatsInRing y = new HatsInRing();
+        for (int p = 0; p < 6; p++) {
+            y.hat(10 * p + 9, 9 * p, 9999);
+        }
+        for (int call = 7; call < 512; call++) {
+            y.toss(call % 6, 40, call % 2);
+        }
+        edge.due("the 512th call", y.told(5, 0), 45);
     }
 
     private void empty() {
@@ -236,6 +256,15 @@ final class RingEdges {
     }
 
     private void asks() {
+        edge.of(6, "What part 0 goes, 1 hits, 2 soft says of a HAT.");
+        HatsInRing each = Edge.by("goes felt+more;hits felt+more;soft 0-felt-more;", 0, 0, 0, 59, 0, 9900, 41, 63, 100);
+        int[][] due = {{0, 0, 0}, {99, 99, -99}, {2, 2, -2}};
+        for (int p = 0; p < 3; p++) {
+            for (int part = 0; part < 3; part++) {
+                edge.due("asks(" + part + ", " + p + "), whatever its KIND", each.asks(part, p), due[p][part]);
+            }
+        }
+
         edge.of(6, "-1000: none such.");
         HatsInRing x = Edge.by("goes 7;hits 8;soft 0-99;", 0, 0, 0, 0, 0, 100);
         for (int p = 0; p < 2; p++) {

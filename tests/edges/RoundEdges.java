@@ -204,7 +204,8 @@ final class RoundEdges {
     }
 
     private void end() {
-        edge.of(15, "By 60 ROUNDS, in thought: which HAT has most FELT then, of like ones the first (what 0; -1: none is UP), how much (1; 0)");
+        edge.of(15, "By 60 ROUNDS, in thought: which HAT has most FELT then, "
+            + "of like ones the first (what 0; -1: none is UP), how much (1; 0)");
         int[][] due = {{99, 0, 99}, {98, 0, 99}};
         for (int[] d : due) {
             HatsInRing x = hitByOne(d[0]);

@@ -39,7 +39,8 @@ final class StoryEdges {
     }
 
     private void judge() {
-        edge.of(21, "A SHEET tells FELT of one behind 1, 2, .. ROUNDS (20 at most): the first number (from 0) that is otherwise; -1: none.");
+        edge.of(21, "A SHEET tells FELT of one behind 1, 2, .. ROUNDS (20 at most): "
+            + "the first number (from 0) that is otherwise; -1: none.");
         HatsInRing x = hitByOne(99);
         List<Integer> was = Edge.state(x);
         for (int size : new int[] {0, 1, 2, 19, 20}) {
@@ -318,6 +319,8 @@ final class StoryEdges {
         one.force(0);
         Check.sheet(one, 0, 98);
         edge.due("TEXT 1", one.laws(0, 1), 2);
+        Check.sheet(one, 0);
+        edge.due("two TEXTS, told nothing", one.laws(0, 1), 3);
 
         edge.of(26, "BAD, -11, BAD, -5 likewise.");
         int[][] due = {{-1, 0, -2}, {4, 0, -2}, {2, 0, -11}, {1, 0, -2}, {0, 2, -5}, {0, -1, -5}};

@@ -281,12 +281,19 @@ final class TermsEdges {
         }
 
         edge.of("KINDS", "HITS as a SILK, if ROUND is even, else 1");
-        int[][] hits = {{0, 0, 0, 0}, {0, 0, 1, 1}, {99, 9, 0, 108}, {99, 9, 1, 1}, {99, 9, 998, 108}, {99, 9, 999, 1}, {5, 3, 2, 8}, {5, 3, 3, 1}};
+        int[][] hits = {{0, 0, 0, 0}, {0, 0, 1, 1}, {99, 9, 0, 108}, {99, 9, 1, 1}, {99, 9, 998, 108},
+            {99, 9, 999, 1}, {5, 3, 2, 8}, {5, 3, 3, 1}};
         for (int[] d : hits) {
             HatsInRing x = Edge.by("goes 1;hits " + d[0] + ";soft 0;", 30 + d[1], 0, 100, 0, 0, 100, 10, 0, 100);
             x.bell(d[2]);
             edge.due("hits " + d[0] + ", MORE " + d[1] + ", ROUND " + d[2], x.duel(0, 1, 0), d[3]);
             edge.due("hits " + d[0] + ", MORE " + d[1] + ", ROUND " + d[2] + ", a SILK", x.duel(0, 2, 0), d[3]);
+        }
+        HatsInRing late = Edge.by("goes 1;hits 9;soft 0;", 38, 0, 9900, 50, 0, 9900);
+        late.bell(999);
+        int[] felt = {99, 98, 81, 80, 63};
+        for (int n = 0; n < felt.length; n++) {
+            edge.due("in thought, " + n + " ROUNDS from 999 on", late.run(n, 21), felt[n]);
         }
     }
 
@@ -301,8 +308,10 @@ final class TermsEdges {
         int[] most = {100, 199, 100, 100, 100, 0};
         int[] least = {1, 1, 1, 1, 1, 0};
         for (int kind = 0; kind < 6; kind++) {
-            edge.due("99, one of KIND " + kind, Edge.by("goes 1;hits 99;soft 0;", 49, 0, 100, 10 * kind + 9, 0, 100).duel(0, 1, 0), most[kind]);
-            edge.due("0, one of KIND " + kind, Edge.by("goes 1;hits 0;soft 0;", 49, 0, 100, 10 * kind + 9, 0, 100).duel(0, 1, 0), least[kind]);
+            HatsInRing hard = Edge.by("goes 1;hits 99;soft 0;", 49, 0, 100, 10 * kind + 9, 0, 100);
+            edge.due("99, one of KIND " + kind, hard.duel(0, 1, 0), most[kind]);
+            HatsInRing light = Edge.by("goes 1;hits 0;soft 0;", 49, 0, 100, 10 * kind + 9, 0, 100);
+            edge.due("0, one of KIND " + kind, light.duel(0, 1, 0), least[kind]);
         }
     }
 
@@ -317,6 +326,7 @@ final class TermsEdges {
             }
             edge.due("soft -99, MORE " + more, Edge.by("goes 1;hits 1;soft -99;", 50 + more, 0, 0).told(0, 8), 703 + more);
             edge.due("soft 0, MORE " + more, Edge.by("goes 1;hits 1;soft 0;", 50 + more, 0, 0).told(0, 8), 1000 + more);
+            edge.due("soft 9999, MORE " + more, Edge.by("goes 1;hits 1;soft 9999;", 50 + more, 0, 0).told(0, 8), 1297 + more);
         }
     }
 

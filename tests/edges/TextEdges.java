@@ -332,7 +332,7 @@ final class TextEdges {
         edge.of("FAULT", "(the text's size, if it ends too early)");
         String text = "goes 1 ;hits ( 5 ) ;soft - 0 ;";
         for (int size = 0; size < text.length(); size++) {
-            boolean inWord = size > 0 && size < text.length() && Character.isLetter(text.charAt(size - 1)) && Character.isLetter(text.charAt(size));
+            boolean inWord = size > 0 && Character.isLetter(text.charAt(size - 1)) && Character.isLetter(text.charAt(size));
             if (!inWord) {
                 fault(text.substring(0, size), size);
             }

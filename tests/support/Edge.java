@@ -2,6 +2,7 @@ import java.io.IOException;
 import java.nio.file.Files;
 import java.nio.file.Path;
 import java.util.ArrayList;
+import java.util.Arrays;
 import java.util.LinkedHashMap;
 import java.util.List;
 import java.util.Map;
@@ -34,8 +35,8 @@ final class Edge {
     private int count;
 
     Edge(String file) throws IOException {
-        Matcher heading = Pattern.compile("(?m)^## (Terms|Promise \\d+|\\w[\\w ]*)(:.*)?$").matcher(Files.readString(Path.of(file)));
         String doc = Files.readString(Path.of(file));
+        Matcher heading = Pattern.compile("(?m)^## (\\w[\\w ]*)(:.*)?$").matcher(doc);
         String name = "";
         int start = 0;
         while (heading.find()) {
@@ -46,7 +47,7 @@ final class Edge {
         sections.put(name, doc.substring(start));
     }
 
-    /** From here on a sentence is tested that stands under a word of "Terms", or under a promise. */
+    /** From here on a sentence is tested that stands under a word of "Terms", or under a heading. */
     void of(String under, String quote) {
         close();
         sentence = under + ": \"" + quote + "\"";
@@ -100,7 +101,7 @@ final class Edge {
         boolean[] tested = new boolean[text.length()];
         for (String quote : quotes.getOrDefault(section, List.of())) {
             for (int at = text.indexOf(quote); at >= 0; at = text.indexOf(quote, at + 1)) {
-                java.util.Arrays.fill(tested, at, at + quote.length(), true);
+                Arrays.fill(tested, at, at + quote.length(), true);
             }
         }
         sentence = section;
