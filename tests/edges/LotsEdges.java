@@ -35,6 +35,10 @@ final class LotsEdges {
         HatsInRing tallies = Edge.ring(0, 0, 9900, 0, 0, 9900);
         tallies.round();
         edge.due("TALLIES that were there count", tallies.drawn(0, 1), 33 + 2);
+        tallies.image();
+        tallies.put(0, 1, 0);
+        edge.due("of the ring as it is, not as in THE IMAGE", tallies.drawn(0, 0), 2);
+        edge.due("of the ring as it is, not as in THE IMAGE", tallies.drawn(0, 1), 2);
 
         edge.of(28, "BAD.");
         for (int seed : new int[] {-1, 100000, Edge.LEAST, Edge.MOST}) {

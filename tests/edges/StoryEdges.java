@@ -362,6 +362,13 @@ final class StoryEdges {
         edge.due("onto one of 40 ints", x.film(2, 0, 3), 3);
         edge.due("it has 3", x.cell(2, 3, 0), -12);
         edge.due("whose(2)", x.whose(2), 1);
+        for (int sort = 1; sort < 3; sort++) {
+            x.sheet(2, sort, 20);
+            x.film(2, 0, 3);
+            x.sheet(1, 0, 3);
+            edge.due("onto one of sort " + sort + ": of bytes", x.copy(2, 0, 1, 0, 3), 3);
+            edge.due("they are there", x.whose(1), 1);
+        }
         edge.due("onto one that is missing", x.film(3, 0, 20), 20);
         edge.due("whose(3)", x.whose(3), 1);
     }

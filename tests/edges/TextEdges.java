@@ -279,6 +279,11 @@ final class TextEdges {
         says("-(" + most + "+1)=" + most + "+1", 1);
         says(most + "*2", -2);
         says(most + "-" + most, 0);
+        says("-" + most + "-1<1", 1);
+        says(most + "<-1", 0);
+        says("-1<" + most, 1);
+        says("1<-" + most + "-1", 0);
+        says(most + "=-1", 0);
         says("4096*4096*256", 0);
         says("4096*4096*256+7", 7);
         says("4096*4096*128", -99);
