@@ -11,14 +11,13 @@ import java.util.TreeSet;
 import java.util.regex.Matcher;
 import java.util.regex.Pattern;
 
-/** The public face as the document prints it, and those rules of LANGUAGE.md that a text can show. */
+/** The public face as the document prints it, and that nothing else can be seen (rule 1 of LANGUAGE.md). */
 public final class FaceTest {
     private static final Check check = new Check();
 
     public static void main(String[] args) throws IOException {
         face(Files.readString(Path.of("../shared/DOC.md")));
-        inside();
-        words(code(Files.readString(Path.of("src/main/java/HatsInRing.java"))));
+        fields();
         check.end();
     }
 
@@ -62,43 +61,12 @@ public final class FaceTest {
         check.due(1, "public constants", HatsInRing.class.getFields().length, 5);
     }
 
-    private static void inside() {
+    private static void fields() {
         for (Field f : HatsInRing.class.getDeclaredFields()) {
             int m = f.getModifiers();
             if (!Modifier.isPrivate(m) && !(Modifier.isPublic(m) && Modifier.isStatic(m))) {
                 check.fail("a field that can be seen: " + f);
             }
-        }
-        for (Class<?> c : HatsInRing.class.getDeclaredClasses()) {
-            if (!Modifier.isStatic(c.getModifiers())) {
-                check.fail("not static: " + c);
-            }
-            for (Field f : c.getDeclaredFields()) {
-                if (Modifier.isStatic(f.getModifiers()) && !Modifier.isFinal(f.getModifiers())) {
-                    check.fail("static, not final: " + f);
-                }
-            }
-        }
-    }
-
-    private static String code(String source) {
-        return source.replaceAll("(?s)/\\*.*?\\*/", "").replaceAll("//[^\n]*", "");
-    }
-
-    private static void words(String code) {
-        for (String word : List.of("throw", "try", "catch", "synchronized", "assert", "package", "Exact\\(", "->", "::",
-                "System\\.(?!arraycopy)", "import (?!java\\.util\\.Arrays;)", "float", "double", "String\\[")) {
-            String whole = word.matches("\\w+") ? "\\b" + word + "\\b" : word;
-            if (Pattern.compile(whole).matcher(code).find()) {
-                check.fail("the class has a " + word);
-            }
-        }
-        // Whatever is made is made with the object: in a field's line or in a constructor.
-        String made = code.replaceAll("(?m)^ +(private )?(final )[^;=(]+ = new [^;]+;$", "");
-        int start = made.indexOf("public HatsInRing()");
-        int end = made.indexOf("    }\n\n", start);
-        if (start < 0 || Pattern.compile("\\bnew\\b").matcher(made.substring(0, start) + made.substring(end)).find()) {
-            check.fail("something is made in a call");
         }
     }
 }
