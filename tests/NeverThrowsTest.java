@@ -12,7 +12,9 @@ public final class NeverThrowsTest {
     private static final int[] NUMBERS = {Integer.MIN_VALUE, Integer.MIN_VALUE + 1, -1000, -1, 0, 0, 1, 1, 2, 3, 4, 5, 6, 7, 10, 15,
         20, 21, 30, 35, 39, 40, 41, 60, 61, 63, 64, 99, 100, 160, 255, 256, 999, 1000, 9999, 10000, 99999, 100000, 1000000,
         Integer.MAX_VALUE - 2, Integer.MAX_VALUE - 1, Integer.MAX_VALUE};
-    private static final int OBJECTS = 300, CALLS = 470;
+    private static final int OBJECTS = 300;
+    /** Behind what begin() asks, with 512 in all. */
+    private static final int CALLS = 460;
     private static final Check check = new Check();
 
     public static void main(String[] args) throws IllegalAccessException {
